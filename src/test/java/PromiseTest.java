@@ -387,6 +387,17 @@ public final class PromiseTest {
     }
 
     private static void planTies() {
+        // Jobs that are alike in all are taken by their numbers.
+        for (int rule = 0; rule < 8; rule++) {
+            int asked = rule;
+            start("8, rule " + rule);
+            for (int job = 3; job < 6; job++) {
+                x.addJob(2, 40, 5, 0);
+                x.addStep(job, 3, 6);
+            }
+            due(20, () -> x.plan(asked));
+            dueOrder(3, 30, 40, 50);
+        }
         // 3 / 9 and 2 / 6 are equal, 1 / 4 is less: a quotient is not rounded.
         start("8");
         x.addJob(0, 0, 1, 0);
@@ -746,6 +757,14 @@ public final class PromiseTest {
     }
 
     private static void way() {
+        // Each answer stands by itself, whatever was asked ahead of it.
+        for (int asked = 0; asked < 4; asked++) {
+            startTold("25, 26, 27, 28");
+            if (asked == 0) due(6, () -> x.wayLength());
+            if (asked == 1) due(10, () -> x.wayAt(2));
+            if (asked == 2) due(4, () -> x.blocks());
+            if (asked == 3) due(2, () -> x.longestBlock());
+        }
         start("25, 26, 27, 28");
         due(STATE, () -> x.wayLength());
         due(STATE, () -> x.blocks());
