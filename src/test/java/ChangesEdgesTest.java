@@ -345,7 +345,7 @@ public final class ChangesEdgesTest {
         rows.says("11: the first two and the last two places");
         rows.run(TOLD, "swap(0,1)=14 orderAt(0,0)=0 orderAt(0,1)=20 orderAt(0,2)=11");
         rows.run(TOLD, "swap(1,0)=13 orderAt(1,0)=10 orderAt(1,1)=1");
-        rows.run("tell(332211)=16 swap(0,0) orderAt(0,0)=11 orderAt(0,1)=20 orderAt(0,2)=0");
+        rows.run("tell(332211)=16 swap(0,0)=18 orderAt(0,0)=11 orderAt(0,1)=20 orderAt(0,2)=0 orderAt(2,0)=21 begin(2,1)=11 endOf(0)=18");
         rows.says("11: also without a plan");
         rows.run("swap(0,0)!I swap(0,1)!I swap(1,0)!I swap(4,0)!I swap(0,HIGH)!I");
         rows.run(TOLD, "addJob(0,0,1,0)=3 swap(0,1)!I undo()=1 swap(0,1)=14");

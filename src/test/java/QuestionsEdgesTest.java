@@ -446,6 +446,8 @@ public final class QuestionsEdgesTest {
         rows.run(PLANNED, "bound()=12 errors()=0 close(0,0,2000)=1 close(1,0,2000)=1 close(2,0,2000)=1 errors()=0");
         rows.says("45: always 0: a job of the latest release without steps is the end and the bound");
         rows.run("addJob(200,0,1,0)=3 plan(0)=200 bound()=200 errors()=0");
+        rows.says("45: always 0 with all machines at work at once, on the steps of all jobs");
+        rows.run("addJob(0,0,1,0)=3 addStep(3,3,50)=0 addJob(0,0,1,0)=4 addStep(4,2,50)=0 addStep(4,1,50)=1 addJob(0,0,1,0)=5 addStep(5,1,50)=0 addStep(5,3,9)=1 plan(0) errors()=0 plan(1) errors()=0");
         rows.says("45: always 0 in the fullest workshop");
         rows.run(sixJobsOfFiveSteps(), "setTool(3,50,20)=0 close(3,0,2000)=1 plan(4) errors()=0 plan(7) errors()=0");
     }
