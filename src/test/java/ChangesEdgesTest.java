@@ -424,6 +424,10 @@ public final class ChangesEdgesTest {
         rows.run(NINE_CHANGES, "undo()=7 undo()=6 undo()=5 undo()=4 undo()=3 undo()=2 undo()=1 undo()=0 undo()=-1 undo()=-1 setWorker(0,9)=1");
         rows.says("15, section 12: a change behind an undo fills the eight again");
         rows.run(NINE_CHANGES, "undo()=7 setWorker(0,10)=8 undo()=7 setWorker(0,11)=8 setWorker(0,12)=11 undo()=7 undo()=6 setWorker(0,13)=8 undo()=6");
+        rows.says("15: used for 512 calls, the last 8 of 503 changes are undone, and not one more");
+        StringBuilder calls = new StringBuilder("setWorker(0,0)=0");
+        for (int change = 1; change < 503; change++) calls.append(" setWorker(0,").append(change % 16).append(")=").append((change - 1) % 16);
+        rows.run(calls.toString(), "undo()=7 undo()=6 undo()=5 undo()=4 undo()=3 undo()=2 undo()=1 undo()=0 undo()=-1");
         rows.says("15, section 12: the latest first");
         rows.run("setWorker(0,1)=0 setWorker(1,2)=0 setWorker(0,4)=1 undo()=2 match(4)=0 match(1)=1 undo()=1 match(2)=0 match(1)=1 undo()=0 match(1)=0");
         rows.says("15, section 12: there is no redo");
