@@ -7,7 +7,9 @@ import java.nio.file.Files;
 import java.nio.file.Path;
 import java.util.ArrayList;
 import java.util.List;
+import java.util.Map;
 import java.util.Set;
+import java.util.TreeMap;
 import java.util.TreeSet;
 import java.util.regex.Matcher;
 import java.util.regex.Pattern;
@@ -16,6 +18,7 @@ import java.util.regex.Pattern;
 public final class FaceTest {
     private static final Path DOC = Path.of("../shared/DOC.md");
     private static final Path SOURCE = Path.of("src/main/java/JobWorkshop.java");
+    private static final int MOST_DEEP = 8;
     private static int wrong = 0;
 
     public static void main(String[] args) throws IOException, IllegalAccessException {
@@ -119,7 +122,34 @@ public final class FaceTest {
             check(Set.of("IndexOutOfBoundsException", "IllegalArgumentException", "IllegalStateException").contains(m.group(1)), "throw " + m.group(1));
         }
         check(text.chars().allMatch(sign -> sign < 128), "a sign above 127");
+        check(!Pattern.compile("\"\"\\s*\\+|\\+\\s*\"\"").matcher(code).find(), "a text joined by +");
         onlyRowsOfFields(code);
+        shortMethods(code);
+    }
+
+    /** Rule 11: methods of some sixty lines, at most seven parameters, and calls at most eight deep but for a method that calls itself. */
+    private static void shortMethods(String code) {
+        Map<String, Set<String>> called = new TreeMap<>();
+        Matcher method = Pattern.compile("(?m)^( {4}| {8})(?! )[\\w\\[\\] ]*?(\\w+)\\(([^)]*)\\)[^;{}=]*\\{\n((?:.*\n)*?)\\1\\}").matcher(code);
+        while (method.find()) {
+            check(method.group(4).split("\n").length <= 60, method.group(2) + " is long");
+            check(method.group(3).split(",").length <= 7, method.group(2) + " has many parameters");
+            Set<String> names = called.computeIfAbsent(method.group(2), name -> new TreeSet<>());
+            for (Matcher call = Pattern.compile("(?<!Math\\.|Arrays\\.|new )\\b(\\w+)\\(").matcher(method.group(4)); call.find(); ) names.add(call.group(1));
+        }
+        check(called.size() > 100, "only " + called.size() + " methods were found");
+        for (String name : called.keySet()) check(depth(name, called, 1) <= MOST_DEEP, name + " calls more than eight deep");
+    }
+
+    /** How many calls stand open at once; methods of one name in several classes are taken for one, which can only add to it. */
+    private static int depth(String name, Map<String, Set<String>> called, int open) {
+        int deepest = open;
+        if (open <= MOST_DEEP) {
+            for (String next : called.get(name)) {
+                if (called.containsKey(next) && !next.equals(name)) deepest = Math.max(deepest, depth(next, called, open + 1));
+            }
+        }
+        return deepest;
     }
 
     /** All calls of a run share one room, so that only fields, exceptions and the eight kept states may be made. */
